@@ -758,6 +758,9 @@ public final class KeptCurves {
         }
 
         private void goRound(Curve curve, int first) {
+            if (first < 0 || first >= ALL) {
+                return;
+            }
             int spot = first;
             for (int steps = 0; steps < ALL && spot >= 0 && spot < ALL && nameOf[spot] == -1; steps++) {
                 nameOf[spot] = first;
