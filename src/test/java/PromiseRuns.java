@@ -297,11 +297,12 @@ public final class PromiseRuns {
         for (int[] n : none) {
             due(9, "row of none", rows.row(n[0], n[1], n[2]), -1);
         }
-        for (int s = 0; s < 200; s++) {
+        KeptCurves keeps = of("2+5y+3x+7xx+1xxyy", "4+6x+8xx+9yy");
+        for (int s = 0; s < 110; s++) {
             int x = s * 37 % 1024 / 32, y = s * 37 % 32;
-            int k = rows.kept(x, y), to = rows.swap(0, x, y);
-            if (k >= 0 && to >= 0 && (rows.pinched(0) >>> y & 1) == 0) {
-                due(8, "kept behind swap(0, " + x + ", " + y + ")", rows.kept(to, y), k);
+            int k = keeps.kept(x, y), to = keeps.swap(0, x, y);
+            if (k >= 0 && to >= 0 && (keeps.pinched(0) >>> y & 1) == 0) {
+                due(8, "kept behind swap(0, " + x + ", " + y + ")", keeps.kept(to, y), k);
             }
         }
     }
