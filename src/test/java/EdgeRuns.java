@@ -15,9 +15,11 @@ public final class EdgeRuns {
     private static final int[] NO_POWER = {MIN, -3, -1, 3, 4, MAX};
     private static final int[] NO_LIST = {MIN, -1, 4, 5, MAX};
 
+    private static final int[] ASKED = new int[37];
     private static int wrong = 0;
 
     private static void due(int promise, String words, long got, long want) {
+        ASKED[promise]++;
         if (got != want) {
             wrong++;
             System.out.println("promise " + promise + ", " + words + ": answered " + got + ", due is " + want);
@@ -26,6 +28,7 @@ public final class EdgeRuns {
 
     public static void main(String[] args) {
         newObject();
+        twoObjects();
         numbers();
         places();
         tapeLength();
@@ -71,6 +74,9 @@ public final class EdgeRuns {
         imageEdges();
         imageHolds();
         countEdges();
+        for (int promise = 1; promise <= 36; promise++) {
+            due(promise, "a case that names it", ASKED[promise] > 0 ? 1 : 0, 1);
+        }
         System.out.println(wrong == 0 ? "EdgeRuns: all answers are as due" : "EdgeRuns: " + wrong + " are not as due");
         if (wrong != 0) {
             System.exit(1);
@@ -152,6 +158,37 @@ public final class EdgeRuns {
             due(30, "NOTHING: none is held", curves.judge(list, 0, 0), NOTHING);
         }
         due(5, "the length, if it ends too early", curves.table(0), -100);
+    }
+
+    /** What one object is told, none other tells: neither one made behind it, nor one made ahead. */
+    private static void twoObjects() {
+        KeptCurves ahead = whole();
+        due(12, "an object ahead", ahead.period(0, 11), 43);
+        KeptCurves full = rich();
+        full.tell(2, 0);
+        full.plan(3, 0);
+        full.list(0, 1);
+        full.write(0);
+        full.feed('1');
+        full.image();
+        newObject();
+        due(11, "the object ahead still has its own TABLES", ahead.behind(0, 11, 1), ROUND[1]);
+        due(16, "the object ahead still has its own TABLES", ahead.cycles(8, 11), 30);
+        due(14, "the one behind has its own, too", full.base(1), 666);
+        for (int what = 0; what <= 4; what++) {
+            int held = what == 0 ? 1 : what == 1 ? 7 : what == 2 ? 1 : what == 3 ? 13 : 1;
+            due(36, "what the one behind holds", full.count(what), held);
+            due(36, "what the one ahead holds", ahead.count(what), what == 1 ? 12 : 0);
+        }
+        due(35, "THE IMAGE of the one behind", full.undo(), 1);
+        due(35, "the one ahead has none", ahead.undo(), STATE);
+        due(32, "the LIST of the one behind", full.put(0, 0, 5), 1);
+        due(32, "the one ahead has none", ahead.put(0, 0, 5), NOTHING);
+        due(34, "an IMAGE of the one ahead, that of the one behind is another", ahead.image(), 0);
+        due(35, "THE IMAGE of the one behind", full.undo(), 1);
+        due(36, "its numbers", full.count(1), 7);
+        due(36, "its ROWS", full.count(4), 1);
+        due(20, "its SPOT", full.told(0), 64);
     }
 
     // ---- promises 2, 3

@@ -2,9 +2,11 @@
 public final class PromiseRuns {
     private static final long NO = Long.MIN_VALUE;
     private static final int MIN = Integer.MIN_VALUE, MAX = Integer.MAX_VALUE;
+    private static final int[] ASKED = new int[37];
     private static int wrong = 0;
 
     private static void due(int promise, String call, long got, long want) {
+        ASKED[promise]++;
         if (got != want) {
             wrong++;
             System.out.println("promise " + promise + ": " + call + " answered " + got + ", due is " + want);
@@ -93,6 +95,9 @@ public final class PromiseRuns {
         counts();
         staleness();
         farOut();
+        for (int promise = 1; promise <= 36; promise++) {
+            due(promise, "a run that names it", ASKED[promise] > 0 ? 1 : 0, 1);
+        }
         System.out.println(wrong == 0 ? "PromiseRuns: all answers are as due" : "PromiseRuns: " + wrong + " are not as due");
         if (wrong != 0) {
             System.exit(1);
